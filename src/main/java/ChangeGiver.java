@@ -308,8 +308,8 @@ public final class ChangeGiver {
     private int giveOut(int sum) {
         till.forgetGiven();
         int left = sum;
-        // Each round but the last one ends with one more tube stuck.
-        for (int round = 0; round <= MOST_KINDS && left > 0 && plan(left); round++) {
+        // Each round that leaves something ends with one more tube stuck.
+        for (int round = 0; round < MOST_KINDS && left > 0 && plan(left); round++) {
             left = giveByWay(left);
         }
         owed += left;

@@ -1,6 +1,7 @@
 /** Promise by promise: ordinary inputs, the edges that the document names, wrong inputs. */
 public final class PromisesTest {
     private static final int NO_AMOUNT = -1000000;
+    private static final int NEVER = -1;
     private static final int[] WRONG_KINDS = {-1, 3, 5, 6, 7, Integer.MAX_VALUE, Integer.MIN_VALUE};
     private static final Due DUE = new Due();
 
@@ -25,6 +26,7 @@ public final class PromisesTest {
         refundWithNote();
         jamsWhileGiving();
         jamsInFullestMode();
+        jamsOneBehindAnother();
         pay();
         payThatJams();
         payAbove999();
@@ -524,6 +526,31 @@ public final class PromisesTest {
         is("tens", x.gave(0), 3);
         is("twenties", x.gave(1), 1);
         is("fifty stays", x.kind(2, 3), 1);
+    }
+
+    private static void jamsOneBehindAnother() {
+        int[] values = {16, 12, 8, 4, 2, 1};
+        ChangeGiver x = new ChangeGiver();
+        for (int k = 0; k < values.length; k++) {
+            x.coin(values[k], 20);
+            x.fill(k, 17);
+            x.jam(k, k < 5 ? 0 : NEVER);
+        }
+        x.put(0);
+        is("five jam, the last one gives it all", x.refund(), 16);
+        is("ones", x.gave(5), 16);
+        is("nothing owed", x.look(2), 0);
+        for (int k = 0; k < values.length; k++) {
+            is("stuck: " + k, x.kind(k, 5), k < 5 ? 1 : 0);
+            is("left: " + k, x.kind(k, 3), k == 0 ? 18 : k < 5 ? 17 : 1);
+            x.stuck(k, false);
+            x.jam(k, k < 5 ? 0 : 3);
+            x.fill(5, k < 5 ? 0 : 16);
+        }
+        x.put(0);
+        is("all six jam", x.refund(), 3);
+        is("what is left is owed", x.look(2), 13);
+        is("the last one too", x.kind(5, 5), 1);
     }
 
     private static void pay() {
