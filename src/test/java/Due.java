@@ -1,7 +1,26 @@
 /** Counts the answers that are not as due, and ends a test with the exit code that tells of them. */
 final class Due {
+    // No test needs a tenth of it: a call that fails to end must not keep the others waiting for ever.
+    private static final long MOST_MILLIS = 300_000L;
+
     private int wrong = 0;
     private int asked = 0;
+
+    Due() {
+        Thread watch = new Thread(Due::endLate);
+        watch.setDaemon(true);
+        watch.start();
+    }
+
+    private static void endLate() {
+        try {
+            Thread.sleep(MOST_MILLIS);
+        } catch (InterruptedException early) {
+            return;
+        }
+        System.out.println("some call has not ended");
+        Runtime.getRuntime().halt(1);
+    }
 
     void is(String call, long got, long want) {
         asked++;
