@@ -4,7 +4,7 @@ import java.lang.reflect.Modifier;
 import java.util.HashMap;
 import java.util.Map;
 
-/** A call of the public face, read from a text such as "coin(10, 4)"; min and max stand for the least and greatest int. */
+/** A call of the public face, read from a text such as "coin(10, 4)"; min and max are the least and greatest int. */
 final class Call {
     /** What a call that threw counts as: no method of the face can answer it. */
     static final long THREW = Long.MIN_VALUE;

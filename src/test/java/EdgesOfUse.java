@@ -1,12 +1,10 @@
 /** The sentences of the section "What it is": what the machine is for, and how long it is used. */
-final class EdgesOfUse {
+final class EdgesOfUse extends Edges {
     private static final int MOST_CALLS = 512;
     private static final String LONG_RUN = "An object is used for at most 512 calls after it has been made";
 
-    private final Sentences s;
-
     private EdgesOfUse(Sentences s) {
-        this.s = s;
+        super(s);
     }
 
     static void all(Sentences s) {
@@ -25,19 +23,23 @@ final class EdgesOfUse {
 
     private void taking() {
         s.holds("A change giver: a machine that takes coins and one note at a time",
-            "coin(10, 9) = 0; note(50) = 1; note(100) = 2; put({0, 1}); ? put({1, 2}) = 0; put(0); ? look(1) = 70; ? look(3) = 1");
+            "coin(10, 9) = 0; note(50) = 1; note(100) = 2; put({0, 1}); ? put({1, 2}) = 0; put(0); ? look(1) = 70",
+            "? look(3) = 1");
         // What is owed from before is no part of what must be given back.
         s.holds("but none with which it could not give back what it owes at any price",
-            "coin(10, 9) = 0; note(50) = 1; price(0, 20); price(5, 40); ? put(1) = 0; fill(0, 2); ? put(1) = 0; fill(0, 1); put(1); buy(0) = 3",
-            "put(0); stuck(0, true); refund() = 0; ? look(2) = 10; stuck(0, false); put(0); refund() = 1; ? look(2) = 10");
+            "coin(10, 9) = 0; note(50) = 1; price(0, 20); price(5, 40); ? put(1) = 0; fill(0, 2); ? put(1) = 0",
+            "fill(0, 1); put(1); buy(0) = 3; put(0); stuck(0, true); refund() = 0; ? look(2) = 10; stuck(0, false)",
+            "put(0); refund() = 1; ? look(2) = 10");
     }
 
     private void giving() {
         s.holds("gives the fewest coins, or those that keep its tubes fullest",
-            "coin(10, 9) = 0; coin(20, 9) = 1; fill(0, 6); fill(1, 1); 2* put(1); refund() = 2; 2* put(1); mode(1); refund() = 3; ? gave(0) = 2; ? gave(1) = 1");
+            "coin(10, 9) = 0; coin(20, 9) = 1; fill(0, 6); fill(1, 1); 2* put(1); refund() = 2; 2* put(1); mode(1)",
+            "refund() = 3; ? gave(0) = 2; ? gave(1) = 1");
         s.holds("goes on with others when a tube jams, keeps what it then owes",
-            "coin(10, 9) = 0; coin(50, 9) = 1; fill(0, 5); put(1); jam(1, 0); refund() = 5; ? look(2) = 0; stuck(1, false); put(1); jam(1, 0)",
-            "refund() = 0; ? look(2) = 50; stuck(1, false); put(0); refund() = 1; ? look(2) = 50; pay() = 1; ? look(2) = 0");
+            "coin(10, 9) = 0; coin(50, 9) = 1; fill(0, 5); put(1); jam(1, 0); refund() = 5; ? look(2) = 0",
+            "stuck(1, false); put(1); jam(1, 0); refund() = 0; ? look(2) = 50; stuck(1, false); put(0)",
+            "refund() = 1; ? look(2) = 50; pay() = 1; ? look(2) = 0");
     }
 
     private void telling() {
@@ -46,27 +48,29 @@ final class EdgesOfUse {
             "fill(0, 2); ? light() = false; ? need({0, 10}) = 0; ? givable(999) = 2");
     }
 
-    /** What came in and was not given, sold or taken out is there: what was sold or is owed stays in it. */
+    /** What came in and did not go out is there; what was sold, or is owed, is a part of it. */
     private void agree(String name, ChangeGiver x) {
-        s.is(name + ": the books agree", x.look(10) + x.look(13) - x.look(12) - x.look(14) - x.look(15), x.look(5));
+        int[] values = {10, 50, 100};
         int inTubes = 0;
         int inBox = 0;
-        for (int k = 0; k < x.look(0); k++) {
-            inTubes += x.kind(k, 0) * x.kind(k, 3);
-            inBox += x.kind(k, 0) * x.kind(k, 4);
+        for (int k = 0; k < values.length; k++) {
+            inTubes += values[k] * x.kind(k, 3);
+            inBox += values[k] * x.kind(k, 4);
         }
-        int held = x.look(3) < 0 ? 0 : x.kind(x.look(3), 0);
+        int note = x.look(3);
+        int has = x.look(5);
         s.is(name + ": the box", x.look(6), inBox);
-        s.is(name + ": tubes, box and note", x.look(5), inTubes + inBox + held);
+        s.is(name + ": tubes, box and note", has, inTubes + inBox + (note < 0 ? 0 : values[note]));
+        s.is(name + ": came and went", x.look(10) + x.look(13) - x.look(12) - x.look(14) - x.look(15), has);
     }
 
     private void agreeing() {
         String name = s.words("and its books agree with tubes, box and what came and went, to the coin.");
         String[] run = {
-            "coin(10, 3) = 0; coin(50, 3) = 1; note(100) = 2; price(0, 30); fill(0, 3); fill(1, 3)", "put(2)", "put(0)", "put(1)",
-            "jam(1, 1)", "buy(0) = 1", "? pay() = NONE", "stuck(1, false)", "pay() = 4", "empty() = 160", "count(1, 2) = -50",
-            "count(1, 0) = 100", "fill({0, 1}, 2)", "drain(0, 1)", "put(0)", "? put(2) = 0", "refund() = 1", "price(0, 0)", "put(2)",
-            "? empty() = 0", "refund() = 0"};
+            "coin(10, 3) = 0; coin(50, 3) = 1; note(100) = 2; price(0, 30)", "fill({0, 1}, 3)", "put(2)", "put(0)",
+            "put(1)", "jam(1, 1)", "buy(0) = 1", "? pay() = NONE", "stuck(1, false)", "pay() = 4", "empty() = 160",
+            "count(1, 2) = -50", "count(1, 0) = 100", "fill({0, 1}, 2)", "drain(0, 1)", "put(0)", "? put(2) = 0",
+            "refund() = 1", "price(0, 0)", "put(2)", "? empty() = 0", "refund() = 0"};
         ChangeGiver x = new ChangeGiver();
         for (String row : run) {
             for (Step step : Step.all(row)) {
@@ -137,8 +141,10 @@ final class EdgesOfUse {
     /** Free as the answers are, a call must answer, and whatever it counts may wrap around. */
     private void later() {
         String name = s.words("what later calls answer is free.");
-        Call[] calls = Step.all("fill({0 .. 5}, 20); put({0 .. 5}); stuck(0, true); refund(); stuck(0, false); buy(0); pay(); jam(1, 1);"
-            + "count({0 .. 2}, 20); drain(0, 20); empty(); need(0); light(); look({0 .. 20}); gave(0); way(999, 0); coins(800); givable(999)")
+        Call[] calls = Step.all("fill({0 .. 5}, 20); put({0 .. 5}); stuck(0, true); refund(); stuck(0, false)",
+        "buy(0); pay(); jam(1, 1);"
+            + "count({0 .. 2}, 20); drain(0, 20); empty(); need(0); light(); look({0 .. 20}); gave(0); way(999, 0)",
+            "coins(800); givable(999)")
             .stream().map(step -> step.call).toArray(Call[]::new);
         ChangeGiver x = new ChangeGiver();
         x.coin(200, 20);

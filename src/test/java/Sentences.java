@@ -96,7 +96,9 @@ final class Sentences {
 
     private void same(String behind, ChangeGiver with, ChangeGiver without, List<Call> calls) {
         for (Call call : calls) {
-            due.is(behind + call, call.on(with), call.on(without));
+            long answer = call.on(with);
+            due.is(behind + call, answer, call.on(without));
+            due.is(behind + call + " throws", answer == Call.THREW, false);
         }
     }
 
