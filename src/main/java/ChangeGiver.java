@@ -27,6 +27,9 @@ public final class ChangeGiver {
     private static final int LOST = 5;
     private static final int BOOKS = 6;
 
+    // look() and need() number the answers of a row from here on: 10 + i.
+    private static final int ROW_START = 10;
+
     private final Till till = new Till();
     private final Sums sums = new Sums();
     private final Ways ways = new Ways();
@@ -188,7 +191,7 @@ public final class ChangeGiver {
     }
 
     public int need(int what) {
-        Kind one = what < 10 ? null : till.find(what - 10);
+        Kind one = what < ROW_START ? null : till.find(what - ROW_START);
         if (what != 0 && one == null) {
             return NONE;
         }
@@ -196,12 +199,12 @@ public final class ChangeGiver {
         if (total == NONE || one == null) {
             return total;
         }
-        return refill.added[what - 10];
+        return refill.added[what - ROW_START];
     }
 
     public int look(int what) {
-        if (what >= 10 && what < 10 + BOOKS) {
-            return books[what - 10];
+        if (what >= ROW_START && what < ROW_START + BOOKS) {
+            return books[what - ROW_START];
         }
         switch (what) {
             case 0: return till.size;

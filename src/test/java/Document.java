@@ -6,6 +6,8 @@ import java.util.BitSet;
 import java.util.LinkedHashMap;
 import java.util.List;
 import java.util.Map;
+import java.util.regex.Matcher;
+import java.util.regex.Pattern;
 
 /** The document's sections, and which of their words some test bears as its name. */
 final class Document {
@@ -22,6 +24,16 @@ final class Document {
             sections.put(title, plain(parts[i].substring(end)));
             borne.put(title, new BitSet());
         }
+    }
+
+    /** What the public face has: its constant, its constructor and its methods, as the document writes them. */
+    static List<String> face() throws IOException {
+        List<String> members = new ArrayList<>();
+        Matcher found = Pattern.compile("(?m)^    public (.*);$").matcher(Files.readString(FILE));
+        while (found.find()) {
+            members.add(found.group(1));
+        }
+        return members;
     }
 
     /** Without fences, counted parts ("==== 2.") and a method's head, with one blank between words. */
