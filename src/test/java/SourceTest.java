@@ -32,10 +32,10 @@ public final class SourceTest {
     }
 
     private static void imports(String code) {
+        List<String> listed = List.of("java.util.Arrays", "java.util.ArrayList", "java.util.List");
         Matcher found = Pattern.compile("import ([^;]*);").matcher(code);
         while (found.find()) {
-            boolean listed = List.of("java.util.Arrays", "java.util.ArrayList", "java.util.List").contains(found.group(1));
-            DUE.is("import " + found.group(1), listed, true);
+            DUE.is("import " + found.group(1), listed.contains(found.group(1)), true);
         }
     }
 
